@@ -1441,7 +1441,6 @@ public final class WordLearner {
             decided = true;
             kind = 0;
             split = NONE;
-            refuting.clear();
             lookAtShortWords();
             hypothesis.clear();
             for (int u = 0; u < shortCount && kind != 1; u++) {

@@ -2,7 +2,7 @@ import java.util.Random;
 
 /** Runs of calls chosen by fixed seeds, each call's answer held against the Model's. */
 public final class ModelTests {
-    private static final int RUNS = 260;
+    private static final int RUNS = 1000;
     private static final int CALLS = 300;
     private static int wrong = 0;
 
@@ -283,6 +283,11 @@ public final class ModelTests {
     }
 
     private void compared() {
+        if (chance(2)) {
+            due("couples", real.couples(), model.couples());
+        }
+        int first = near(3);
+        due("differs(" + first + ", 1)", real.differs(first, 1), model.differs(first, 1));
         due("differ", real.differ(), model.differ());
         due("couples", real.couples(), model.couples());
         for (int k = -1; k <= Math.max(model.differ(), 0) && !failed; k++) {

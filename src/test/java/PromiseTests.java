@@ -220,6 +220,13 @@ public final class PromiseTests {
         machineFault("states 3;accept 3;", 2, 16);
         machineFault("accept 1;states 2;", 2, 7);
         machineFault("move 1 a new to 0;", 2, 5);
+        machineFault("move 0 a new to 1;", 2, 16);
+        machineFault("states 2;accept 2;", 2, 16);
+        machineFault("az 0;", 1, 0);
+        machineFault("accept 0{;", 1, 8);
+        machineFault("accept 0:;", 1, 8);
+        machineFault("accept 0/;", 1, 8);
+        machineFault("accept 0`;", 1, 8);
         machineFault("move 0 a same 0 to 0;", 2, 14);
         machineFault("registers 1;move 0 a same 1 to 0;", 2, 26);
         machineFault("registers 1;move 0 a new to 0 keep 1;", 2, 35);
@@ -264,6 +271,7 @@ public final class PromiseTests {
         wordFault("1a", 1, 0);
         wordFault("a1;", 1, 2);
         wordFault("ab1", 1, 0);
+        wordFault("az1", 1, 0);
         wordFault("a1 1", 1, 3);
         wordFault("a100", 2, 1);
         wordFault("a1b001", 2, 3);
@@ -482,6 +490,10 @@ public final class PromiseTests {
         x.move(1, 1, 0, 2, 2, 0, NONE);
         due("by a new NAME", x.differ(), 2);
         due("differs(1, 1)", x.differs(1, 1), 1);
+        x.accept(1, 0, 1);
+        due("asked ahead of differ", x.differs(1, 1), -2);
+        x.accept(1, 0, 0);
+        due("asked ahead of differ", x.differs(1, 1), 1);
         WordLearner b = with("symbols 2;states 2;accept 1;move 0 b new to 1;");
         due("b, if one has it", b.differ(), 1);
         due("differs(0, 0)", b.differs(0, 0), 1);
@@ -524,6 +536,20 @@ public final class PromiseTests {
         WordLearner z = with("registers 1;move 0 a new to 0 keep 0;");
         machine(z, 1, "registers 1;move 0 a new to 0;move 0 a same 0 to 0 keep 0;");
         due("up to other NAMES", z.couples(), 2);
+        String four = "states 5;registers 2;move 0 a new to 1;move 1 a new to 2;move 2 a new to 3;move 3 a new to 4;";
+        WordLearner v = with(four);
+        machine(v, 1, four);
+        v.move(0, 0, 0, 2, 1, 0, NONE);
+        v.move(0, 1, 0, 2, 2, 1, NONE);
+        v.move(1, 2, 0, 2, 3, 0, NONE);
+        v.move(1, 3, 0, 2, 4, 1, NONE);
+        v.move(0, 4, 0, 0, 4, NONE, 0);
+        v.move(0, 4, 0, 1, 4, NONE, 1);
+        v.move(0, 4, 0, 2, 3, NONE, NONE);
+        v.move(1, 4, 0, 0, 4, NONE, 0);
+        v.move(1, 4, 0, 1, 4, NONE, 1);
+        v.move(1, 4, 0, 2, 4, NONE, NONE);
+        due("four NAMES held and a new one", v.couples(), 113);
     }
 
     private static void letter() {
@@ -773,6 +799,11 @@ public final class PromiseTests {
         due("guessed(5, 0)", x.guessed(5, 0), -3);
         due("guessed(0, 3)", x.guessed(0, 3), -2);
         x.learn();
+        x.begin();
+        x.step();
+        x.step();
+        x.step();
+        due("asked ahead of all others", x.guessed(3, 0), 2);
         int[][] due = {{0, NONE}, {1, 7}, {1, 3}, {2, 3}, {1, 9}};
         for (int i = 0; i < 5; i++) {
             due("guessed(" + i + ", 0)", x.guessed(i, 0), due[i][0]);
