@@ -467,6 +467,11 @@ final class Model {
     record Told(List<Letter> word, int couples) { }
 
     static Told compare(Goer a, Goer b, int symbols) {
+        return compare(a, b, symbols, 20);
+    }
+
+    /** As told, but by WORDS of so many LETTERS at most. */
+    static Told compare(Goer a, Goer b, int symbols, int letters) {
         Set<String> seen = new HashSet<>();
         List<List<Letter>> row = new ArrayList<>();
         row.add(List.of());
@@ -476,7 +481,7 @@ final class Model {
         }
         for (int i = 0; i < row.size(); i++) {
             List<Letter> beginning = row.get(i);
-            if (beginning.size() == 20) {
+            if (beginning.size() == letters) {
                 continue;
             }
             LinkedHashSet<Integer> names = new LinkedHashSet<>();
