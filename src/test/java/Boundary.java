@@ -34,7 +34,7 @@ final class Boundary {
 
     // ---- what is due
 
-    /** The next calls of due() are about that sentence of that part: Terms, ==== 2., ==== 3., Promise 7, .. */
+    /** The next calls of due() are about that sentence of that part: Terms, ==== 2., ==== 3., Promise 7 and so on. */
     static void sentence(String part, String words) {
         now = part + ", '" + words + "'";
         sentences++;
@@ -52,6 +52,7 @@ final class Boundary {
             case "Terms" -> between(all, "## Terms", "==== 2. THE LEARNER");
             case "==== 2." -> between(all, "==== 2. THE LEARNER", "==== 3. Two of");
             case "==== 3." -> between(all, "==== 3. Two of", "The constants:");
+            case "The constants" -> between(all, "The constants:", "Ahead of");
             default -> between(all, "## " + part, "\n## ");
         };
     }

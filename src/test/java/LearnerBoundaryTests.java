@@ -59,9 +59,15 @@ public final class LearnerBoundaryTests {
         asManyRemembered();
         waysInARow();
         longWords();
+        instanceNames();
+        instancesInARow();
+        firstThatShows();
         stepOne();
+        leastOfSeveral();
         stepTwo();
         stepThree();
+        mixedNames();
+        rightBehindAStep();
         namesThatAreNoRegisters();
         learntByTwenty();
         hypothesisSymbols();
@@ -98,6 +104,7 @@ public final class LearnerBoundaryTests {
         guessRefused();
         guessedPlaces();
         guessedRegisters();
+        hypothesisWays();
         guessedRefused();
         refutesNone();
         refutesRefused();
@@ -310,6 +317,11 @@ public final class LearnerBoundaryTests {
         due("one, of u two", y.alike(u), NONE);
         Boundary.word(y, "b5b5b5");
         due("none, of u two", y.alike(u), NONE);
+        WordLearner z = learnt("states 5;registers 1;symbols 2;accept 3;move 0 a new to 1 keep 0;move 1 a same 0 to 4;"
+            + "move 1 a new to 3;move 0 b new to 2;move 2 a new to 3;", "a5");
+        int v = shortWord(z, "b0");
+        due("v goes by new NAMES as a5 does", z.registers(v), 0);
+        due("but one is REMEMBERED", z.alike(v), NONE);
     }
 
     private static void waysInARow() {
@@ -322,6 +334,14 @@ public final class LearnerBoundaryTests {
         due("both ways would do", x.alike(u), 12);
         WordLearner y = learnt(TURNED, "b5b6");
         due("the second way alone will do", y.alike(shortWord(y, "a0a1")), 21);
+        WordLearner z = learnt("states 5;registers 2;symbols 2;accept 0;move 0 a new to 1;move 1 a new to 2 keep 0;"
+            + "move 1 b new to 3 keep 1;move 2 a new to 4 keep 1;move 3 b new to 4 keep 0;move 4 a same 0 to 0;"
+            + "move 4 b same 1 to 0;", "a9b8b7");
+        int v = shortWord(z, "a0a1a2");
+        due("the first NAME is not REMEMBERED", z.registers(v), 6);
+        due("places count among those that are", z.alike(v), 21);
+        Boundary.word(z, "a9a8a7");
+        due("places count among those that are", z.alike(v), 12);
     }
 
     private static void longWords() {
@@ -361,6 +381,50 @@ public final class LearnerBoundaryTests {
         due("then u does, too", x.registers(u), 1);
     }
 
+    private static void instanceNames() {
+        sentence("==== 2.", "each NAME of the TEST is a NAME that w has not (no two one and the same), or one of w (likewise)");
+        WordLearner x = behindSteps("states 3;registers 1;accept 2;move 0 a new to 1 keep 0;move 1 a same 0 to 2 keep 0;"
+            + "move 2 a new to 1;", "32213");
+        dueTest(x, 2, "a0a1");
+        dueTest(x, 3, "a0a0");
+        WordLearner y = behindSteps("states 3;registers 1;accept 2;move 0 a same 0 to 1;move 0 a new to 0 keep 0;"
+            + "move 1 a same 0 to 1 keep 0 drop 0;move 1 a new to 2 keep 0;", "323");
+        dueTest(y, 1, "a0a1");
+        dueTest(y, 2, "a0");
+    }
+
+    private static void instancesInARow() {
+        sentence("==== 2.", "INSTANCES are in a row by the first NAME, then the next: that w has not first, then those of w rising.");
+        WordLearner x = behindSteps("states 4;registers 2;symbols 2;accept 3;move 0 a new to 2 keep 0;move 2 b new to 3;"
+            + "move 3 a same 0 to 2 keep 1;", "32231");
+        dueTest(x, 3, "b0a1b2");
+        WordLearner y = behindSteps("states 3;registers 2;symbols 2;accept 0;move 0 a same 1 to 1 keep 1;move 0 a new to 0;"
+            + "move 0 b new to 1 keep 1;move 1 b new to 2 keep 0;move 2 a same 0 to 0;move 2 a same 1 to 1 keep 1;"
+            + "move 2 a new to 2 keep 1;", "23211");
+        dueTest(y, 3, "b0a1a0");
+    }
+
+    private static void firstThatShows() {
+        sentence("==== 2.", "the first such TEST and INSTANCE SHOW it");
+        WordLearner x = behindSteps("states 2;registers 1;symbols 2;accept 0;move 0 a same 0 to 0 keep 0;move 0 b same 0 to 1;"
+            + "move 0 b new to 0 keep 0;move 1 b new to 0;", "232321");
+        dueTest(x, 1, "a0");
+        dueTest(x, 2, "b0");
+        dueTest(x, 3, "b0a1");
+    }
+
+    private static void leastOfSeveral() {
+        sentence("==== 2.", "of the first such LONG word the least such NAME, what SHOWS it: a new TEST: the LONG word's last LETTER and the TEST as in that INSTANCE, in LEAST form.");
+        WordLearner x = behindSteps("states 3;registers 2;symbols 2;accept 1;move 0 a same 1 to 0;move 0 a new to 1 keep 1;"
+            + "move 0 b same 0 to 1 keep 0 drop 1;move 0 b new to 0 keep 0;move 1 a new to 2 keep 0;move 2 a new to 0;", "23232");
+        int u = shortWord(x, "a0a1");
+        due("u REMEMBERS none", x.registers(u), 0);
+        Boundary.word(x, "a0a1a2");
+        due("the LONG word both", x.remembered() & 3, 3);
+        due("step", x.step(), 1);
+        dueTest(x, 3, "a0a1");
+    }
+
     private static void stepTwo() {
         sentence("==== 2.", "2: else, is there a LONG word that is ALIKE to no SHORT one: the first such is a new SHORT one.");
         WordLearner x = with("symbols 2;states 3;accept 1;accept 2;move 0 a new to 1;move 0 b new to 2;move 2 b new to 2;");
@@ -388,6 +452,42 @@ public final class LearnerBoundaryTests {
         due("step", x.step(), 3);
         due("LETTERS of the TEST", x.test(2, NONE, 0), letters - i - 1);
         due("the first NAME of the TEST", x.test(2, 0, 1), 0);
+        WordLearner y = behindSteps("states 3;registers 2;accept 2;move 0 a new to 1 keep 1;move 1 a same 1 to 2 keep 1;"
+            + "move 1 a new to 2 keep 0;move 2 a same 0 to 0;", "3223");
+        dueTest(y, 2, "a0a0a1a2");
+    }
+
+    private static void mixedNames() {
+        sentence("==== 2.", "its REGISTERS named as they are then, all other NAMES others that nothing else has, and the rest of w");
+        WordLearner x = behindSteps("states 2;registers 1;accept 1;move 0 a new to 1 keep 0;move 1 a same 0 to 1;", "2");
+        due("LETTERS", x.refutes(NONE, 0), 2);
+        due("i", x.splits(), 0);
+        due("step", x.step(), 3);
+        dueTest(x, 1, "a0");
+    }
+
+    /** What is kept between calls must not be asked for as it was ahead of a STEP. */
+    private static void rightBehindAStep() {
+        sentence("Promise 21", "A STEP: 0 to 3 as told.");
+        WordLearner x = with(TWIN, "a5");
+        x.step();
+        x.step();
+        due("alike(1)", x.alike(1), 1);
+        due("registers(1)", behindSteps(TWIN, "32").registers(1), 1);
+        due("goes(0, 0, 0)", behindSteps(TWIN, "32").goes(0, 0, 0), 1);
+        due("count(4)", behindSteps(TWIN, "32").count(4), 3);
+        due("count(4)", behindSteps(TWIN, "322").count(4), 5);
+        due("count(6)", behindSteps(TWIN, "322").count(6), 1);
+        due("stands", behindSteps(TWIN, "322").stands(), 2);
+        due("guess", behindSteps(TWIN, "322").guess(), 0);
+        due("spare", behindSteps(TWIN, "322").spare(), 0);
+        due("splits", behindSteps(TWIN, "322").splits(), NONE);
+        due("refutes", behindSteps(TWIN, "322").refutes(NONE, 0), NONE);
+        WordLearner y = learnt(TWIN, "a5");
+        y.begin();
+        due("remembered behind begin", y.remembered(), 0);
+        due("alike behind begin", y.alike(0), 0);
+        due("count(6) behind begin", y.count(6), 0);
     }
 
     private static void namesThatAreNoRegisters() {
@@ -652,8 +752,14 @@ public final class LearnerBoundaryTests {
         due("TESTS", x.count(1), 1);
         due("SHORT word 1", x.brief(1, NONE, 0), -2);
         due("TEST 1", x.test(1, NONE, 0), -2);
+        due("LETTERS of SHORT words", x.count(2), 0);
+        due("LETTERS of TESTS", x.count(3), 0);
+        due("LONG words", x.count(4), 2);
         due("begin", x.begin(), 2);
         due("learn", x.learn(), 14);
+        WordLearner kept = learnt(TWIN);
+        kept.begin();
+        due("no STATE has a REGISTER", kept.spare(), 1);
         WordLearner y = learnt(TEN_TESTS);
         due("seven SHORT words, ten TESTS", y.begin(), 17);
     }
@@ -906,6 +1012,19 @@ public final class LearnerBoundaryTests {
         due("two", x.guessed(2, 0), u);
         due("the first, by the way turned", x.guessed(2, 1), 0);
         due("the second, by the way turned", x.guessed(2, 2), 99);
+    }
+
+    private static void hypothesisWays() {
+        sentence("==== 2.", "by a LETTER it goes from u as the LONG word does to the first SHORT one to which that is ALIKE, by the first way");
+        WordLearner x = learnt(EITHER, "a9a3a9");
+        due("both ways would do", x.guessed(2, 0), shortWord(x, "a0a1"));
+        due("the first", x.guessed(2, 1), 9);
+        due("the first", x.guessed(2, 2), 3);
+        due("either NAME will do", x.guess(), 1);
+        WordLearner y = learnt(TURNED, "b9b3a3");
+        due("the second alone will do", y.guess(), 1);
+        Boundary.word(y, "b9b3a9");
+        due("the second alone will do", y.guess(), 0);
     }
 
     private static void guessedRefused() {

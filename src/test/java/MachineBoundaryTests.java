@@ -17,9 +17,10 @@ public final class MachineBoundaryTests {
     /** ACCEPTS all WORDS of a and b. */
     private static final String ALL = "symbols 2;accept 0;move 0 a new to 0;move 0 b new to 0;";
 
-    public static void main(String[] args) {
+    public static void main(String[] args) throws ReflectiveOperationException {
         atFirst();
         newObject();
+        constants();
         lastCall();
         begins();
         firstRegister();
@@ -115,6 +116,11 @@ public final class MachineBoundaryTests {
         WordLearner other = new WordLearner();
         x.accept(0, 0, 1);
         due("two objects have nothing in common", other.of(0, 4), 0);
+    }
+
+    private static void constants() throws ReflectiveOperationException {
+        sentence("The constants", "`NONE = -1`: There is none.");
+        due("NONE", WordLearner.class.getField("NONE").getInt(null), -1);
     }
 
     private static void lastCall() {
@@ -605,6 +611,12 @@ public final class MachineBoundaryTests {
         String held = "states 3;registers 1;accept 2;move 0 a new to 1 keep 0;move 1 a new to 2;";
         due("one that is held ahead of a new one", Boundary.two(held, "").differs(1, 1), 0);
         due("a new one at last", Boundary.two(held + "move 1 a same 0 to 0;", "").differs(1, 1), 1);
+        String four = "states 5;registers 2;move 0 a new to 1";
+        String firstTwo = four + " keep 0;move 1 a new to 2 keep 1;move 2 a new to 3;move 3 a new to 4;"
+            + "move 4 a same 0 to 4 drop 0;move 4 a same 1 to 4 drop 1;move 4 a new to 3;";
+        String lastTwo = four + ";move 1 a new to 2;move 2 a new to 3 keep 0;move 3 a new to 4 keep 1;"
+            + "move 4 a same 0 to 4 drop 0;move 4 a same 1 to 4 drop 1;move 4 a new to 4;";
+        due("four that are held and a new one", Boundary.two(firstTwo, lastTwo).couples(), told(firstTwo, lastTwo, 20).couples());
     }
 
     private static void searchEarlierOnes() {

@@ -172,7 +172,7 @@ public final class TextBoundaryTests {
             faulty("accept 0;" + sign, 1, 9);
             faulty(sign + "accept 0;", 1, 0);
         }
-        due("nines", fine("states 5;accept 04;", 0).of(0, 4), 16);
+        due("of(0, 4)", fine("states 5;accept 04;", 0).of(0, 4), 16);
         faulty("states 9;", 2, 7);
         faulty("states 59;", 2, 7);
         faulty("states 50;", 2, 7);
