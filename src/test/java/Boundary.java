@@ -7,8 +7,8 @@ import java.util.function.Supplier;
 import java.util.function.ToIntFunction;
 
 /**
- * What the tests of boundary cases share. Each test names a part of the document and the sentence that it holds the
- * class to; the sentence must stand in that part, word for word.
+ * What the tests of boundary cases share. Each test names a promise and the sentence of the document that it holds the
+ * class to; the sentence must stand in the promise, or the part on which it leans, word for word.
  */
 final class Boundary {
     static final int NONE = WordLearner.NONE;
@@ -34,9 +34,9 @@ final class Boundary {
 
     // ---- what is due
 
-    /** The next calls of due() are about that sentence of that part: Terms, ==== 2., ==== 3., Promise 7 and so on. */
-    static void sentence(String part, String words) {
-        now = part + ", '" + words + "'";
+    /** The next calls of due() are about a promise and a sentence of it, or of the part on which it leans. */
+    static void sentence(String promise, String part, String words) {
+        now = promise + (part.equals(promise) ? "" : ", " + part) + ", '" + words + "'";
         sentences++;
         if (Files.exists(DOC) && !partOf(part).contains(words)) {
             tell("the document doesn't say so");

@@ -117,8 +117,13 @@ public final class LearnerBoundaryTests {
         Boundary.end();
     }
 
-    private static void sentence(String part, String words) {
-        Boundary.sentence(part, words);
+    private static void sentence(String promise, String words) {
+        Boundary.sentence(promise, promise, words);
+    }
+
+    /** A sentence of another part on which the promise leans. */
+    private static void sentence(String promise, String part, String words) {
+        Boundary.sentence(promise, part, words);
     }
 
     private static void due(String call, int got, int want) {
@@ -205,7 +210,7 @@ public final class LearnerBoundaryTests {
     // ---- THE WORD
 
     private static void leastForm() {
-        sentence("Terms", "Its LEAST form: its first NAME is 0, each NAME that is new the least that is not used yet.");
+        sentence("Promise 17", "Terms", "Its LEAST form: its first NAME is 0, each NAME that is new the least that is not used yet.");
         WordLearner x = with("", "a99a0a99b50a0b0a1a99a2a3a4a5");
         int[] least = {0, 1, 0, 2, 1, 1, 3, 0, 4, 5, 6, 7};
         for (int k = 0; k < 12; k++) {
@@ -266,7 +271,7 @@ public final class LearnerBoundaryTests {
     // ---- ==== 2.: SHORT words, TESTS, what is REMEMBERED and ALIKE
 
     private static void listsAtFirst() {
-        sentence("==== 2.", "SHORT words (at first the empty one), TESTS (at first the empty one)");
+        sentence("Promise 20", "==== 2.", "SHORT words (at first the empty one), TESTS (at first the empty one)");
         WordLearner x = new WordLearner();
         due("SHORT words", x.count(0), 1);
         due("TESTS", x.count(1), 1);
@@ -279,7 +284,7 @@ public final class LearnerBoundaryTests {
     }
 
     private static void listsInLeastForm() {
-        sentence("==== 2.", "all WORDS in LEAST form, numbered as they come from 0 on");
+        sentence("Promise 23", "==== 2.", "all WORDS in LEAST form, numbered as they come from 0 on");
         WordLearner x = behindSteps(PAIR, "322320");
         dueShort(x, 0, "");
         dueShort(x, 1, "a0");
@@ -294,7 +299,7 @@ public final class LearnerBoundaryTests {
     }
 
     private static void rememberedNames() {
-        sentence("==== 2.", "A NAME of w is REMEMBERED, if for some TEST and INSTANCE by which a NAME of the TEST is that, ANSWER is another one than with a NAME there (wherever it was that) that w and the INSTANCE have not");
+        sentence("Promise 18", "==== 2.", "A NAME of w is REMEMBERED, if for some TEST and INSTANCE by which a NAME of the TEST is that, ANSWER is another one than with a NAME there (wherever it was that) that w and the INSTANCE have not");
         due("the empty WORD has none", learnt(TWIN, "").remembered(), 0);
         due("the empty TEST shows none", with(TWIN, "a5").remembered(), 0);
         due("the TEST a0 shows it", learnt(TWIN, "a5").remembered(), 1);
@@ -303,7 +308,7 @@ public final class LearnerBoundaryTests {
     }
 
     private static void asManyRemembered() {
-        sentence("==== 2.", "Two WORDS are ALIKE, if as many NAMES are REMEMBERED of both");
+        sentence("Promise 19", "==== 2.", "Two WORDS are ALIKE, if as many NAMES are REMEMBERED of both");
         WordLearner x = learnt(TWIN, "a5");
         due("one, of u none", x.alike(0), NONE);
         due("one, of u one", x.alike(1), 1);
@@ -325,7 +330,7 @@ public final class LearnerBoundaryTests {
     }
 
     private static void waysInARow() {
-        sentence("==== 2.", "Ways are in a row: to which (rising) the first REMEMBERED one is set, then the next.");
+        sentence("Promise 19", "==== 2.", "Ways are in a row: to which (rising) the first REMEMBERED one is set, then the next.");
         WordLearner x = learnt(EITHER, "a5a6");
         int u = shortWord(x, "a0a1");
         due("both are REMEMBERED", x.registers(u), 3);
@@ -345,7 +350,7 @@ public final class LearnerBoundaryTests {
     }
 
     private static void longWords() {
-        sentence("==== 2.", "LONG words of a SHORT one u: by SYMBOLS of MACHINE 0 rising, NAMES REMEMBERED of u rising, then the least that u has not");
+        sentence("Promise 33", "==== 2.", "LONG words of a SHORT one u: by SYMBOLS of MACHINE 0 rising, NAMES REMEMBERED of u rising, then the least that u has not");
         due("one SYMBOL, no NAME", new WordLearner().count(4), 1);
         due("two SYMBOLS, no NAME", with("symbols 2;").count(4), 2);
         due("MACHINE 1's SYMBOLS don't count", Boundary.two("", "symbols 2;").count(4), 1);
@@ -366,7 +371,7 @@ public final class LearnerBoundaryTests {
     // ---- ==== 2.: STEPS
 
     private static void stepOne() {
-        sentence("==== 2.", "1: is there a LONG word (by SHORT ones, then as told) with a NAME REMEMBERED that u has, too, but REMEMBERED of u it is not");
+        sentence("Promise 21", "==== 2.", "1: is there a LONG word (by SHORT ones, then as told) with a NAME REMEMBERED that u has, too, but REMEMBERED of u it is not");
         WordLearner x = with("states 2;registers 1;symbols 2;accept 1;move 0 b same 0 to 0;move 0 b new to 1 keep 0;"
             + "move 1 a new to 0;");
         due("step", x.step(), 2);
@@ -382,7 +387,7 @@ public final class LearnerBoundaryTests {
     }
 
     private static void instanceNames() {
-        sentence("==== 2.", "each NAME of the TEST is a NAME that w has not (no two one and the same), or one of w (likewise)");
+        sentence("Promise 18", "==== 2.", "each NAME of the TEST is a NAME that w has not (no two one and the same), or one of w (likewise)");
         WordLearner x = behindSteps("states 3;registers 1;accept 2;move 0 a new to 1 keep 0;move 1 a same 0 to 2 keep 0;"
             + "move 2 a new to 1;", "32213");
         dueTest(x, 2, "a0a1");
@@ -394,7 +399,7 @@ public final class LearnerBoundaryTests {
     }
 
     private static void instancesInARow() {
-        sentence("==== 2.", "INSTANCES are in a row by the first NAME, then the next: that w has not first, then those of w rising.");
+        sentence("Promise 21", "==== 2.", "INSTANCES are in a row by the first NAME, then the next: that w has not first, then those of w rising.");
         WordLearner x = behindSteps("states 4;registers 2;symbols 2;accept 3;move 0 a new to 2 keep 0;move 2 b new to 3;"
             + "move 3 a same 0 to 2 keep 1;", "32231");
         dueTest(x, 3, "b0a1b2");
@@ -405,7 +410,7 @@ public final class LearnerBoundaryTests {
     }
 
     private static void firstThatShows() {
-        sentence("==== 2.", "the first such TEST and INSTANCE SHOW it");
+        sentence("Promise 21", "==== 2.", "the first such TEST and INSTANCE SHOW it");
         WordLearner x = behindSteps("states 2;registers 1;symbols 2;accept 0;move 0 a same 0 to 0 keep 0;move 0 b same 0 to 1;"
             + "move 0 b new to 0 keep 0;move 1 b new to 0;", "232321");
         dueTest(x, 1, "a0");
@@ -414,7 +419,7 @@ public final class LearnerBoundaryTests {
     }
 
     private static void leastOfSeveral() {
-        sentence("==== 2.", "of the first such LONG word the least such NAME, what SHOWS it: a new TEST: the LONG word's last LETTER and the TEST as in that INSTANCE, in LEAST form.");
+        sentence("Promise 21", "==== 2.", "of the first such LONG word the least such NAME, what SHOWS it: a new TEST: the LONG word's last LETTER and the TEST as in that INSTANCE, in LEAST form.");
         WordLearner x = behindSteps("states 3;registers 2;symbols 2;accept 1;move 0 a same 1 to 0;move 0 a new to 1 keep 1;"
             + "move 0 b same 0 to 1 keep 0 drop 1;move 0 b new to 0 keep 0;move 1 a new to 2 keep 0;move 2 a new to 0;", "23232");
         int u = shortWord(x, "a0a1");
@@ -426,7 +431,7 @@ public final class LearnerBoundaryTests {
     }
 
     private static void stepTwo() {
-        sentence("==== 2.", "2: else, is there a LONG word that is ALIKE to no SHORT one: the first such is a new SHORT one.");
+        sentence("Promise 21", "==== 2.", "2: else, is there a LONG word that is ALIKE to no SHORT one: the first such is a new SHORT one.");
         WordLearner x = with("symbols 2;states 3;accept 1;accept 2;move 0 a new to 1;move 0 b new to 2;move 2 b new to 2;");
         due("step", x.step(), 2);
         dueShort(x, 1, "a0");
@@ -438,7 +443,7 @@ public final class LearnerBoundaryTests {
     }
 
     private static void stepThree() {
-        sentence("==== 2.", "the first i by which MACHINE 0 ACCEPTS just one of MIXED i and MIXED i and 1: a new TEST: what of w is behind the first i and 1 LETTERS, in LEAST form.");
+        sentence("Promise 31", "==== 2.", "the first i by which MACHINE 0 ACCEPTS just one of MIXED i and MIXED i and 1: a new TEST: what of w is behind the first i and 1 LETTERS, in LEAST form.");
         WordLearner x = with(PAIR);
         due("LETTERS", x.refutes(NONE, 0), 2);
         due("i", x.splits(), 0);
@@ -458,7 +463,7 @@ public final class LearnerBoundaryTests {
     }
 
     private static void mixedNames() {
-        sentence("==== 2.", "its REGISTERS named as they are then, all other NAMES others that nothing else has, and the rest of w");
+        sentence("Promise 31", "==== 2.", "its REGISTERS named as they are then, all other NAMES others that nothing else has, and the rest of w");
         WordLearner x = behindSteps("states 2;registers 1;accept 1;move 0 a new to 1 keep 0;move 1 a same 0 to 1;", "2");
         due("LETTERS", x.refutes(NONE, 0), 2);
         due("i", x.splits(), 0);
@@ -491,7 +496,7 @@ public final class LearnerBoundaryTests {
     }
 
     private static void namesThatAreNoRegisters() {
-        sentence("==== 2.", "a NAME that is none of u's REGISTERS goes as the least that u has not");
+        sentence("Promise 29", "==== 2.", "a NAME that is none of u's REGISTERS goes as the least that u has not");
         WordLearner x = learnt(TWIN, "a5a6a5a5");
         due("a NAME that was forgotten", x.guessed(3, 0), 1);
         due("it is held now", x.guessed(3, 1), 5);
@@ -504,7 +509,7 @@ public final class LearnerBoundaryTests {
     }
 
     private static void learntByTwenty() {
-        sentence("==== 3.", "Two of MACHINES, THE HYPOTHESIS AGREE, if no WORD of 20 LETTERS at most is ACCEPTED by just one.");
+        sentence("Promise 30", "==== 3.", "Two of MACHINES, THE HYPOTHESIS AGREE, if no WORD of 20 LETTERS at most is ACCEPTED by just one.");
         WordLearner x = behindSteps(REFUTED_BY_20, "232323232322");
         due("a WORD of 20 LETTERS refutes it", x.refutes(NONE, 0), 20);
         due("stands", x.stands(), 1);
@@ -520,7 +525,7 @@ public final class LearnerBoundaryTests {
     }
 
     private static void hypothesisSymbols() {
-        sentence("==== 3.", "THE HYPOTHESIS has those of MACHINE 0");
+        sentence("Promise 28", "==== 3.", "THE HYPOTHESIS has those of MACHINE 0");
         WordLearner x = Boundary.two(TWIN, "symbols 2;states 2;accept 1;move 0 b new to 1;");
         due("b of MACHINE 1 is nothing to it", x.learn(), 3);
         due("stands", x.stands(), 2);
@@ -534,7 +539,7 @@ public final class LearnerBoundaryTests {
     // TEST have been seen, as REMEMBERED or as not ALIKE, ahead of the STEP. So no test is of that.
 
     private static void shortWordsTen() {
-        sentence("==== 2.", "a STEP would make an 11th SHORT one");
+        sentence("Promise 21", "==== 2.", "a STEP would make an 11th SHORT one");
         WordLearner x = learnt(TEN_SHORT);
         due("ten SHORT words", x.count(0), 10);
         due("LEARNT", x.stands(), 2);
@@ -543,7 +548,7 @@ public final class LearnerBoundaryTests {
     }
 
     private static void shortWordsLetters() {
-        sentence("==== 2.", "or one of more than 6 LETTERS or 3 NAMES; an 11th TEST");
+        sentence("Promise 21", "==== 2.", "or one of more than 6 LETTERS or 3 NAMES; an 11th TEST");
         WordLearner x = learnt(SIX_LETTERS);
         due("LETTERS", x.brief(6, NONE, 0), 6);
         dueShort(x, 6, "a0a0a0a0a1a0");
@@ -553,7 +558,7 @@ public final class LearnerBoundaryTests {
     }
 
     private static void shortWordsNames() {
-        sentence("==== 2.", "an 11th SHORT one, or one of more than 6 LETTERS or 3 NAMES");
+        sentence("Promise 21", "==== 2.", "an 11th SHORT one, or one of more than 6 LETTERS or 3 NAMES");
         WordLearner x = behindSteps(PAIR, "322320");
         dueShort(x, 3, "a0a1a2");
         due("LEARNT", x.stands(), 2);
@@ -561,7 +566,7 @@ public final class LearnerBoundaryTests {
     }
 
     private static void testsTen() {
-        sentence("==== 2.", "an 11th TEST");
+        sentence("Promise 21", "==== 2.", "an 11th TEST");
         WordLearner x = behindSteps(TEN_TESTS, "3232232333323120");
         due("ten TESTS, the last by 1", x.count(1), 10);
         WordLearner y = behindSteps("states 3;registers 2;symbols 2;accept 1;move 0 a new to 1 keep 0;move 0 b same 0 to 1;"
@@ -576,7 +581,7 @@ public final class LearnerBoundaryTests {
     }
 
     private static void testsLetters() {
-        sentence("==== 2.", "an 11th TEST, or one of more than 6 LETTERS");
+        sentence("Promise 21", "==== 2.", "an 11th TEST, or one of more than 6 LETTERS");
         WordLearner x = learnt(SIX_LETTERS);
         dueTest(x, 1, "a0a0a0a1a1a0");
         WordLearner y = behindSteps("states 3;registers 2;symbols 2;accept 1;move 0 a same 1 to 1;move 0 b new to 1 keep 1;"
@@ -587,7 +592,7 @@ public final class LearnerBoundaryTests {
     }
 
     private static void testsNames() {
-        sentence("==== 2.", "an 11th TEST, or one of more than 6 LETTERS or 3 NAMES");
+        sentence("Promise 21", "==== 2.", "an 11th TEST, or one of more than 6 LETTERS or 3 NAMES");
         WordLearner x = behindSteps(TRIPLE, "323223");
         dueTest(x, 3, "a0a1a2");
         WordLearner y = behindSteps("states 3;registers 2;symbols 2;accept 2;move 0 a new to 1 keep 1;move 1 a new to 2;"
@@ -600,7 +605,7 @@ public final class LearnerBoundaryTests {
     }
 
     private static void nothingIsDone() {
-        sentence("==== 2.", "Nothing is done then.");
+        sentence("Promise 21", "==== 2.", "Nothing is done then.");
         WordLearner x = behindSteps(TRIPLE, "323223");
         for (int i = 0; i < 3; i++) {
             due("step", x.step(), -4);
@@ -614,7 +619,7 @@ public final class LearnerBoundaryTests {
     }
 
     private static void beginsAnew() {
-        sentence("==== 2.", "THE LEARNER begins anew by begin(), by machine() of MACHINE 0, by accept(), move() of it that change something.");
+        sentence("Promise 20", "==== 2.", "THE LEARNER begins anew by begin(), by machine() of MACHINE 0, by accept(), move() of it that change something.");
         WordLearner x = learnt(TWIN);
         due("begin", x.begin(), 5);
         due("begin", x.begin(), 2);
@@ -645,7 +650,7 @@ public final class LearnerBoundaryTests {
     }
 
     private static void beginsAnewNot() {
-        sentence("==== 2.", "by accept(), move() of it that change something");
+        sentence("Promise 20", "==== 2.", "by accept(), move() of it that change something");
         WordLearner x = Boundary.busy();
         x.accept(0, 2, 1);
         x.accept(0, 0, 0);
@@ -911,6 +916,9 @@ public final class LearnerBoundaryTests {
         for (int n = 0; n <= 2; n++) {
             due("six LETTERS, goes(6, 0, " + n + ")", six.goes(6, 0, n), model.goes(6, 0, n));
         }
+        WordLearner ten = learnt(TEN_SHORT);
+        due("the tenth SHORT word", ten.goes(9, 0, 0), modelBehind(TEN_SHORT, 14).goes(9, 0, 0));
+        due("no eleventh", ten.goes(10, 0, 0), -2);
     }
 
     private static void goesNowhere() {
@@ -1015,7 +1023,7 @@ public final class LearnerBoundaryTests {
     }
 
     private static void hypothesisWays() {
-        sentence("==== 2.", "by a LETTER it goes from u as the LONG word does to the first SHORT one to which that is ALIKE, by the first way");
+        sentence("Promise 29", "==== 2.", "by a LETTER it goes from u as the LONG word does to the first SHORT one to which that is ALIKE, by the first way");
         WordLearner x = learnt(EITHER, "a9a3a9");
         due("both ways would do", x.guessed(2, 0), shortWord(x, "a0a1"));
         due("the first", x.guessed(2, 1), 9);

@@ -64,8 +64,13 @@ public final class MachineBoundaryTests {
         Boundary.end();
     }
 
-    private static void sentence(String part, String words) {
-        Boundary.sentence(part, words);
+    private static void sentence(String promise, String words) {
+        Boundary.sentence(promise, promise, words);
+    }
+
+    /** A sentence of another part on which the promise leans. */
+    private static void sentence(String promise, String part, String words) {
+        Boundary.sentence(promise, part, words);
     }
 
     private static void due(String call, int got, int want) {
@@ -96,7 +101,7 @@ public final class MachineBoundaryTests {
     }
 
     private static void atFirst() {
-        sentence("Terms", "at first each has one STATE, no REGISTERS, one SYMBOL, no moves, accepts nothing");
+        sentence("Promise 1", "Terms", "at first each has one STATE, no REGISTERS, one SYMBOL, no moves, accepts nothing");
         dueAsAtFirst(new WordLearner(), 0);
         dueAsAtFirst(new WordLearner(), 1);
         WordLearner x = new WordLearner();
@@ -119,12 +124,12 @@ public final class MachineBoundaryTests {
     }
 
     private static void constants() throws ReflectiveOperationException {
-        sentence("The constants", "`NONE = -1`: There is none.");
+        sentence("Promise 1", "The constants", "`NONE = -1`: There is none.");
         due("NONE", WordLearner.class.getField("NONE").getInt(null), -1);
     }
 
     private static void lastCall() {
-        sentence("What it is", "An object is used for at most 512 calls after it has been made");
+        sentence("Promise 1", "What it is", "An object is used for at most 512 calls after it has been made");
         due("the 512th call", Boundary.lastOf512(new WordLearner(), x -> x.accept(0, 0, 1)), 0);
         due("the 512th call", Boundary.lastOf512(new WordLearner(), x -> x.feed(0, 0, 0, 0, 0)), 20);
         due("the 512th call", Boundary.lastOf512(new WordLearner(), x -> x.learn()), 0);
@@ -141,7 +146,7 @@ public final class MachineBoundaryTests {
     // ---- Terms: how a MACHINE goes
 
     private static void begins() {
-        sentence("Terms", "A MACHINE begins in STATE 0, all REGISTERS empty.");
+        sentence("Promise 11", "Terms", "A MACHINE begins in STATE 0, all REGISTERS empty.");
         WordLearner x = with("states 5;registers 2;", "a0");
         dueBehind(x, 0, 0, 0, NONE, NONE);
         WordLearner y = with("states 2;registers 2;move 0 a same 0 to 1;move 0 a same 1 to 1;", "a0");
@@ -149,7 +154,7 @@ public final class MachineBoundaryTests {
     }
 
     private static void firstRegister() {
-        sentence("Terms", "of REGISTERS that hold its NAME the first by which a move of this STATE, SYMBOL and same is told: that");
+        sentence("Promise 11", "Terms", "of REGISTERS that hold its NAME the first by which a move of this STATE, SYMBOL and same is told: that");
         String head = "states 5;registers 2;symbols 2;move 0 a new to 1 keep 0;move 1 a new to 2 keep 1;";
         String both = "a5a5b5";
         due("both hold it, both are told", with(head + "move 2 b same 1 to 3;move 2 b same 0 to 4;", both).behind(0, 3, 0), 4);
@@ -161,7 +166,7 @@ public final class MachineBoundaryTests {
     }
 
     private static void withoutSame() {
-        sentence("Terms", "without such the move of this STATE, SYMBOL and new, if told");
+        sentence("Promise 11", "Terms", "without such the move of this STATE, SYMBOL and new, if told");
         String head = "states 3;registers 1;move 0 a new to 1 keep 0;move 1 a new to 2;";
         due("a NAME that none holds", with(head, "a5a6").behind(0, 2, 0), 2);
         due("a NAME that is held, but no same is told", with(head, "a5a5").behind(0, 2, 0), 2);
@@ -169,7 +174,7 @@ public final class MachineBoundaryTests {
     }
 
     private static void lost() {
-        sentence("Terms", "else it is LOST");
+        sentence("Promise 11", "Terms", "else it is LOST");
         String head = "states 2;registers 1;move 0 a new to 1 keep 0;move 1 a same 0 to 1;";
         dueBehind(with(head, "a5a5"), 0, 2, 1, 5, NONE);
         dueBehind(with(head, "a5a6"), 0, 2, NONE, NONE, NONE);
@@ -179,7 +184,7 @@ public final class MachineBoundaryTests {
     }
 
     private static void keepThenDrop() {
-        sentence("Terms", "A move: first keep (that REGISTER holds the NAME), then drop (that REGISTER is empty), then it is in the STATE to.");
+        sentence("Promise 11", "Terms", "A move: first keep (that REGISTER holds the NAME), then drop (that REGISTER is empty), then it is in the STATE to.");
         String head = "states 2;registers 2;move 0 a new to 1 keep 0;move 1 a new to 1";
         dueBehind(with(head + ";", "a5a6"), 0, 2, 1, 5, NONE);
         dueBehind(with(head + " keep 0;", "a5a6"), 0, 2, 1, 6, NONE);
@@ -193,7 +198,7 @@ public final class MachineBoundaryTests {
     }
 
     private static void staysLost() {
-        sentence("Terms", "LOST it stays (all REGISTERS are empty then).");
+        sentence("Promise 11", "Terms", "LOST it stays (all REGISTERS are empty then).");
         WordLearner x = with("states 2;registers 2;accept 0;accept 1;move 0 a new to 1 keep 0;move 1 a same 0 to 0 keep 1;",
             "a5a5b5a5a6a7");
         dueBehind(x, 0, 2, 0, 5, 5);
@@ -204,7 +209,7 @@ public final class MachineBoundaryTests {
     }
 
     private static void accepts() {
-        sentence("Terms", "It ACCEPTS a WORD, if it is in a STATE of accept (not LOST) behind it.");
+        sentence("Promise 10", "Terms", "It ACCEPTS a WORD, if it is in a STATE of accept (not LOST) behind it.");
         String moves = "move 0 a new to 1;";
         due("the empty WORD", with("states 2;accept 0;" + moves, "").ask(0), 1);
         due("the empty WORD", with("states 2;accept 1;" + moves, "").ask(0), 0);
@@ -559,7 +564,7 @@ public final class MachineBoundaryTests {
     }
 
     private static void twentyLetters() {
-        sentence("==== 3.", "if no WORD of 20 LETTERS at most is ACCEPTED by just one");
+        sentence("Promise 14", "==== 3.", "if no WORD of 20 LETTERS at most is ACCEPTED by just one");
         WordLearner x = Boundary.two(TWENTY_A, TWENTY_B);
         Model.Told twenty = told(TWENTY_A, TWENTY_B, 20);
         due("the Model's WORD", twenty.word().size(), 20);
@@ -578,7 +583,7 @@ public final class MachineBoundaryTests {
     }
 
     private static void searchSymbols() {
-        sentence("==== 3.", "then by SYMBOLS (0; 1, if one of the MACHINES has that");
+        sentence("Promise 15", "==== 3.", "then by SYMBOLS (0; 1, if one of the MACHINES has that");
         String b = "symbols 2;states 2;accept 1;move 0 b new to 1;";
         String both = "symbols 2;states 2;accept 1;move 0 a new to 1;move 0 b new to 1;";
         due("the first has b", Boundary.two(b, "").differs(0, 0), 1);
@@ -593,7 +598,7 @@ public final class MachineBoundaryTests {
     }
 
     private static void searchNames() {
-        sentence("==== 3.", "then by NAMES: those that are in REGISTERS of the first, then of the second one, as they are behind that beginning, in the row of REGISTERS, each once, then the least that the beginning has not");
+        sentence("Promise 15", "==== 3.", "then by NAMES: those that are in REGISTERS of the first, then of the second one, as they are behind that beginning, in the row of REGISTERS, each once, then the least that the beginning has not");
         String turned = "states 5;registers 2;accept 3;move 0 a new to 1 keep 1;move 1 a same 1 to 4;move 1 a new to 2 keep 0;"
             + "move 2 a new to 3;";
         due("in the row of REGISTERS", Boundary.two(turned, "").differs(2, 1), 1);
@@ -620,7 +625,7 @@ public final class MachineBoundaryTests {
     }
 
     private static void searchEarlierOnes() {
-        sentence("==== 3.", "a WORD behind which STATES of both (LOST too) and all REGISTERS are as behind an earlier one up to other NAMES is not gone on from, nor looked at (one of 20 LETTERS is looked at, not gone on from)");
+        sentence("Promise 16", "==== 3.", "a WORD behind which STATES of both (LOST too) and all REGISTERS are as behind an earlier one up to other NAMES is not gone on from, nor looked at (one of 20 LETTERS is looked at, not gone on from)");
         due("both LOST", Boundary.two("", "").couples(), 2);
         due("one LOST", Boundary.two("move 0 a new to 0;", "").couples(), 2);
         due("none LOST", Boundary.two("move 0 a new to 0;", "move 0 a new to 0;").couples(), 1);
@@ -634,7 +639,7 @@ public final class MachineBoundaryTests {
     }
 
     private static void searchFirstOne() {
-        sentence("==== 3.", "It is the first one that just one ACCEPTS.");
+        sentence("Promise 14", "==== 3.", "It is the first one that just one ACCEPTS.");
         WordLearner x = Boundary.two(ALL, ALL);
         due("both ACCEPT all", x.differ(), NONE);
         x.accept(0, 0, 0);
@@ -693,7 +698,7 @@ public final class MachineBoundaryTests {
     // ---- ==== 3.: refused calls
 
     private static void codes() {
-        sentence("==== 3.", "-2 there is none such; -3 a number can't be; -4 too many, STUCK; -5 it can't be now (THE HYPOTHESIS doesn't STAND: STEP would be 1 or 2)");
+        sentence("Promise 28", "==== 3.", "-2 there is none such; -3 a number can't be; -4 too many, STUCK; -5 it can't be now (THE HYPOTHESIS doesn't STAND: STEP would be 1 or 2)");
         Boundary.refused("-2", Boundary::halfway, x -> x.ask(2), -2);
         Boundary.refused("-3", Boundary::halfway, x -> x.many(0, 6), -3);
         Boundary.refused("-5", Boundary::halfway, x -> x.guess(), -5);
@@ -704,7 +709,7 @@ public final class MachineBoundaryTests {
     }
 
     private static void severalRefusals() {
-        sentence("==== 3.", "(Of several that which the call tells first");
+        sentence("Promise 29", "==== 3.", "(Of several that which the call tells first");
         Boundary.refused("machine", x -> x.machine(2, -1), -2);
         Boundary.refused("accept", x -> x.accept(0, 9, 9), -2);
         Boundary.refused("move", x -> x.move(0, 9, 0, 2, 9, 9, 9), -2);
@@ -720,7 +725,7 @@ public final class MachineBoundaryTests {
     }
 
     private static void refusalAheadOfNone() {
-        sentence("==== 3.", "all these ahead of NONE.)");
+        sentence("Promise 9", "==== 3.", "all these ahead of NONE.)");
         Boundary.refused("moved of none that is told", x -> x.moved(0, 0, 0, 0, 3), -2);
         Boundary.refused("behind of none such", x -> x.behind(0, 4, 2), -3);
         Boundary.refused("goes where there is none", Boundary::halfway, x -> x.goes(0, 0, 1), -3);

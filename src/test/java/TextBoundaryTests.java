@@ -51,8 +51,13 @@ public final class TextBoundaryTests {
         Boundary.end();
     }
 
-    private static void sentence(String part, String words) {
-        Boundary.sentence(part, words);
+    private static void sentence(String promise, String words) {
+        Boundary.sentence(promise, promise, words);
+    }
+
+    /** A sentence of another part on which the promise leans. */
+    private static void sentence(String promise, String part, String words) {
+        Boundary.sentence(promise, part, words);
     }
 
     private static void due(String call, int got, int want) {
@@ -74,7 +79,7 @@ public final class TextBoundaryTests {
     // ---- Terms: THE TEXT of a MACHINE
 
     private static void lines() {
-        sentence("Terms", "LINES, each with a ; behind");
+        sentence("Promise 3", "Terms", "LINES, each with a ; behind");
         fine("", 0);
         fine(" ", 0);
         fine("    ", 0);
@@ -91,7 +96,7 @@ public final class TextBoundaryTests {
     }
 
     private static void lineWords() {
-        sentence("Terms", "states N | registers N | symbols N | accept N | move N X (same N | new) to N");
+        sentence("Promise 3", "Terms", "states N | registers N | symbols N | accept N | move N X (same N | new) to N");
         for (String word : new String[] {"state", "register", "symbol", "accep", "mov", "statess", "registerss",
             "symbolss", "acceptt", "movee", "s", "a", "to", "keep", "drop", "new", "same", "0", "b"}) {
             faulty(word + " 0 a new to 0;", 1, 0);
@@ -108,7 +113,7 @@ public final class TextBoundaryTests {
     }
 
     private static void lineNumbers() {
-        sentence("Terms", "states N | registers N | symbols N | accept N | move N X");
+        sentence("Promise 3", "Terms", "states N | registers N | symbols N | accept N | move N X");
         faulty("states;", 1, 6);
         faulty("registers;", 1, 9);
         faulty("symbols;", 1, 7);
@@ -126,7 +131,7 @@ public final class TextBoundaryTests {
     }
 
     private static void keepAndDrop() {
-        sentence("Terms", "to N [ keep N ] [ drop N ]");
+        sentence("Promise 3", "Terms", "to N [ keep N ] [ drop N ]");
         String head = "registers 2;move 0 a new to 0";
         int at = head.length() + 1;
         fine(head + ";", 1);
@@ -148,7 +153,7 @@ public final class TextBoundaryTests {
     }
 
     private static void symbolsOfMoves() {
-        sentence("Terms", "X: a or b");
+        sentence("Promise 3", "Terms", "X: a or b");
         due("a", fine("symbols 2;move 0 a new to 0;", 1).moved(0, 0, 0, 2, 0), 0);
         due("b", fine("symbols 2;move 0 b new to 0;", 1).moved(0, 0, 1, 2, 0), 0);
         for (String x : new String[] {"c", "`", "aa", "ab", "bb", "A", "B", "z", "0"}) {
@@ -158,7 +163,7 @@ public final class TextBoundaryTests {
     }
 
     private static void wordsAndNumbers() {
-        sentence("Terms", "Words (a to z, as long as they go on), numbers (0 to 9, likewise), other bytes one by one");
+        sentence("Promise 3", "Terms", "Words (a to z, as long as they go on), numbers (0 to 9, likewise), other bytes one by one");
         fine("states2;registers1;accept1;move1a same0to0keep0drop0;", 1);
         faulty("accepta0;", 1, 0);
         faulty("acceptz0;", 1, 0);
@@ -179,7 +184,7 @@ public final class TextBoundaryTests {
     }
 
     private static void blanks() {
-        sentence("Terms", "blanks (32) may stand between all");
+        sentence("Promise 3", "Terms", "blanks (32) may stand between all");
         WordLearner x = fine("  states  2  ;  accept  1  ;  move  1  a  new  to  0  ;  ", 1);
         due("of(0, 4)", x.of(0, 4), 2);
         fine(WHOLE, 2);
@@ -194,7 +199,7 @@ public final class TextBoundaryTests {
     }
 
     private static void states() {
-        sentence("Terms", "STATES 1 to 5 (1 at first)");
+        sentence("Promise 3", "Terms", "STATES 1 to 5 (1 at first)");
         for (int n = 1; n <= 5; n++) {
             due("of(0, 0)", fine("states " + n + ";", 0).of(0, 0), n);
         }
@@ -208,7 +213,7 @@ public final class TextBoundaryTests {
     }
 
     private static void registers() {
-        sentence("Terms", "REGISTERS 0 to 2 (0)");
+        sentence("Promise 3", "Terms", "REGISTERS 0 to 2 (0)");
         for (int n = 0; n <= 2; n++) {
             due("of(0, 1)", fine("registers " + n + ";", 0).of(0, 1), n);
         }
@@ -220,7 +225,7 @@ public final class TextBoundaryTests {
     }
 
     private static void symbols() {
-        sentence("Terms", "SYMBOLS 1 to 2 (1)");
+        sentence("Promise 3", "Terms", "SYMBOLS 1 to 2 (1)");
         due("of(0, 2)", fine("symbols 1;", 0).of(0, 2), 1);
         due("of(0, 2)", fine("symbols 2;", 0).of(0, 2), 2);
         faulty("symbols 0;", 2, 8);
@@ -232,7 +237,7 @@ public final class TextBoundaryTests {
     }
 
     private static void numbersOfStates() {
-        sentence("Terms", "N of accept, move, to: a STATE");
+        sentence("Promise 3", "Terms", "N of accept, move, to: a STATE");
         for (int n = 1; n <= 5; n++) {
             String head = "states " + n + ";";
             int last = n - 1;
@@ -248,7 +253,7 @@ public final class TextBoundaryTests {
     }
 
     private static void numbersOfRegisters() {
-        sentence("Terms", "of same, keep, drop: a REGISTER (as many as told so far)");
+        sentence("Promise 3", "Terms", "of same, keep, drop: a REGISTER (as many as told so far)");
         for (int n = 0; n <= 2; n++) {
             String head = "registers " + n + ";";
             if (n > 0) {
@@ -268,7 +273,7 @@ public final class TextBoundaryTests {
     // ---- Terms: FAULTS of a MACHINE's text
 
     private static void firstFault() {
-        sentence("Terms", "FAULTS, the first along the text");
+        sentence("Promise 3", "Terms", "FAULTS, the first along the text");
         faulty("x;states 6;", 1, 0);
         faulty("states 6;x;", 2, 7);
         faulty("states 2;states 2;states 6;", 3, 9);
@@ -283,7 +288,7 @@ public final class TextBoundaryTests {
     }
 
     private static void faultPlaces() {
-        sentence("Terms", "1 what can't stand there (at it");
+        sentence("Promise 3", "Terms", "1 what can't stand there (at it");
         faulty("xyz 0;", 1, 0);
         faulty("accept xyz;", 1, 7);
         faulty("accept    xyz;", 1, 10);
@@ -294,7 +299,7 @@ public final class TextBoundaryTests {
     }
 
     private static void faultAtTheEnd() {
-        sentence("Terms", "the end: how many bytes there are");
+        sentence("Promise 3", "Terms", "the end: how many bytes there are");
         int wordAt = 0;
         for (int n = 0; n <= WHOLE.length(); n++) {
             String cut = WHOLE.substring(0, n);
@@ -324,7 +329,7 @@ public final class TextBoundaryTests {
     }
 
     private static void bWithOneSymbol() {
-        sentence("Terms", "b with one SYMBOL is such");
+        sentence("Promise 3", "Terms", "b with one SYMBOL is such");
         faulty("move 0 b new to 0;", 1, 7);
         faulty("symbols 1;move 0 b new to 0;", 1, 17);
         faulty("move 0 b new to 0;symbols 2;", 1, 7);
@@ -332,7 +337,7 @@ public final class TextBoundaryTests {
     }
 
     private static void numbersOutOfBounds() {
-        sentence("Terms", "2 a number out of its bounds");
+        sentence("Promise 3", "Terms", "2 a number out of its bounds");
         faulty("states   6;", 2, 9);
         faulty("states 6", 2, 7);
         faulty("states 6x", 2, 7);
@@ -343,7 +348,7 @@ public final class TextBoundaryTests {
     }
 
     private static void threeDigits() {
-        sentence("Terms", "or of more than 2 digits (at it)");
+        sentence("Promise 3", "Terms", "or of more than 2 digits (at it)");
         due("of(0, 0)", fine("states 02;", 0).of(0, 0), 2);
         due("of(0, 1)", fine("registers 00;", 0).of(0, 1), 0);
         due("of(0, 2)", fine("symbols 01;", 0).of(0, 2), 1);
@@ -360,7 +365,7 @@ public final class TextBoundaryTests {
     }
 
     private static void faultThreeInALine() {
-        sentence("Terms", "3, behind the last number or word of a LINE, ahead of its ;");
+        sentence("Promise 3", "Terms", "3, behind the last number or word of a LINE, ahead of its ;");
         faulty("states 2;states", 1, 15);
         faulty("states 2;states x;", 1, 16);
         faulty("states 2;states 6;", 2, 16);
@@ -384,7 +389,7 @@ public final class TextBoundaryTests {
     }
 
     private static void faultThreePlace() {
-        sentence("Terms", "but told at its first word");
+        sentence("Promise 3", "Terms", "but told at its first word");
         faulty("states 2;states 2;", 3, 9);
         faulty("states 2;   states 2;", 3, 12);
         faulty("  accept  0  ;  accept  0  ;", 3, 16);
@@ -392,7 +397,7 @@ public final class TextBoundaryTests {
     }
 
     private static void toldTwice() {
-        sentence("Terms", "states, registers, symbols told twice");
+        sentence("Promise 3", "Terms", "states, registers, symbols told twice");
         fine("states 1;registers 0;symbols 1;", 0);
         fine("symbols 2;registers 2;states 5;", 0);
         faulty("states 1;states 1;", 3, 9);
@@ -404,7 +409,7 @@ public final class TextBoundaryTests {
     }
 
     private static void toldBehindAcceptOrMove() {
-        sentence("Terms", "or behind an accept, a move");
+        sentence("Promise 3", "Terms", "or behind an accept, a move");
         String move = "move 0 a new to 0;";
         for (String line : new String[] {"states 1;", "registers 0;", "symbols 1;"}) {
             fine(line + "accept 0;" + move, 1);
@@ -416,7 +421,7 @@ public final class TextBoundaryTests {
     }
 
     private static void acceptTwice() {
-        sentence("Terms", "an accept told twice");
+        sentence("Promise 3", "Terms", "an accept told twice");
         due("of(0, 4)", fine("states 5;accept 4;accept 0;accept 2;accept 1;accept 3;", 0).of(0, 4), 31);
         faulty("accept 0;accept 0;", 3, 9);
         faulty("accept 0;accept 00;", 3, 9);
@@ -424,7 +429,7 @@ public final class TextBoundaryTests {
     }
 
     private static void moveTwice() {
-        sentence("Terms", "a move of like STATE, SYMBOL and guard (same N, new) told twice");
+        sentence("Promise 3", "Terms", "a move of like STATE, SYMBOL and guard (same N, new) told twice");
         String head = "states 2;registers 2;symbols 2;";
         String move = "move 0 a same 0 to 0;";
         for (String other : new String[] {"move 1 a same 0 to 0;", "move 0 b same 0 to 0;", "move 0 a same 1 to 0;",
@@ -447,7 +452,7 @@ public final class TextBoundaryTests {
     }
 
     private static void wordLetters() {
-        sentence("Terms", "{X N}, 12 LETTERS at most (a 13th: FAULT 3 at its X)");
+        sentence("Promise 4", "Terms", "{X N}, 12 LETTERS at most (a 13th: FAULT 3 at its X)");
         for (int n = 0; n <= 12; n++) {
             due("letter(NONE, 0)", Boundary.fineWord(letters(n), n).letter(NONE, 0), n);
         }
@@ -462,7 +467,7 @@ public final class TextBoundaryTests {
     }
 
     private static void wordNames() {
-        sentence("Terms", "N 0 to 99");
+        sentence("Promise 4", "Terms", "N 0 to 99");
         due("NAME", Boundary.fineWord("a0", 1).letter(0, 1), 0);
         due("NAME", Boundary.fineWord("a00", 1).letter(0, 1), 0);
         due("NAME", Boundary.fineWord("a9", 1).letter(0, 1), 9);
@@ -475,7 +480,7 @@ public final class TextBoundaryTests {
     }
 
     private static void wordFaults() {
-        sentence("Terms", "FAULTS 1, 2 likewise (b may always stand)");
+        sentence("Promise 4", "Terms", "FAULTS 1, 2 likewise (b may always stand)");
         faultyWord("a", 1, 1);
         faultyWord("a  ", 1, 3);
         faultyWord("a1 b", 1, 4);
@@ -499,7 +504,7 @@ public final class TextBoundaryTests {
     }
 
     private static void bInAWord() {
-        sentence("Terms", "(b may always stand)");
+        sentence("Promise 4", "Terms", "(b may always stand)");
         WordLearner x = Boundary.fineWord("b1", 1);
         due("of(0, 2)", x.of(0, 2), 1);
         due("of(1, 2)", x.of(1, 2), 1);
@@ -619,7 +624,7 @@ public final class TextBoundaryTests {
     }
 
     private static void machineFaultChangesTheTapeAlone() {
-        sentence("==== 3.", "-30 less the FAULT: a text (THE TAPE is empty then; nothing else changes)");
+        sentence("Promise 3", "==== 3.", "-30 less the FAULT: a text (THE TAPE is empty then; nothing else changes)");
         String[] texts = {"states 5;accept 4;x", "states 5;accept 5;", "states 5;accept 4;accept 4;"};
         int[] places = {18, 16, 18};
         for (int i = 0; i < 3; i++) {
@@ -676,7 +681,7 @@ public final class TextBoundaryTests {
     }
 
     private static void wordFaultChangesTheTapeAlone() {
-        sentence("==== 3.", "Refused calls answer by a code and change nothing");
+        sentence("Promise 4", "==== 3.", "Refused calls answer by a code and change nothing");
         faultyWord("b5 b6 x", 1, 6);
         faultyWord("b5 b6 b100", 2, 7);
         faultyWord(letters(12) + "b5", 3, 24);
