@@ -902,7 +902,10 @@ public final class WordLearner {
 
     /** Goes through two at once, till just one of them ACCEPTS. */
     private static final class Search {
-        /** Both in STATES: 25 by 52 likenesses of four REGISTERS; one LOST: 2 by 25; both LOST: 1. */
+        /**
+         * Both MACHINES in STATES: 25 by 52 likenesses of four REGISTERS; one LOST: 2 by 25; both LOST: 1.
+         * With THE HYPOTHESIS it is less: 50 by 17, as its REGISTERS are never empty nor alike; MACHINE 0 LOST: 10.
+         */
         static final int ROOM = 1351;
         static final int LIKENESSES = 625;
         static final int SECOND_STATES = LIST_ROOM + 1;
